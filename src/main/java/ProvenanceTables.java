@@ -527,8 +527,10 @@ public final class ProvenanceTables {
      * query has room for joins of 9 tables.
      */
     private static final class Monomial {
+        /** With this bit turned over, numbers compare with sign as they did without. */
+        static final long SIGN_BIT = 0x8000000000000000L;
+
         private static final long LOW_BITS = 0x1111111111111111L;
-        private static final long SIGN_BIT = 0x8000000000000000L;
 
         private Monomial() {
         }
@@ -539,10 +541,6 @@ public final class ProvenanceTables {
 
         static int power(long monomial, int tag) {
             return (int) (monomial >>> (60 - 4 * tag)) & 15;
-        }
-
-        static boolean isBefore(long monomial, long other) {
-            return (monomial ^ SIGN_BIT) > (other ^ SIGN_BIT);
         }
 
         static long withoutPowers(long monomial) {
@@ -600,10 +598,11 @@ public final class ProvenanceTables {
         /** False if this would be a term too many. */
         boolean addTerm(long monomial, long factor) {
             int spot = 0;
-            while (spot < size && spot < MOST_TERMS && Monomial.isBefore(monomials[spot], monomial)) {
+            long rank = monomial ^ Monomial.SIGN_BIT;
+            while (spot < size && spot < MOST_TERMS && (monomials[spot] ^ Monomial.SIGN_BIT) > rank) {
                 spot++;
             }
-            if (hasTerm(spot) && monomials[spot] == monomial) {
+            if (spot < size && spot < MOST_TERMS && monomials[spot] == monomial) {
                 factors[spot] += factor;
                 return true;
             }
@@ -773,10 +772,10 @@ public final class ProvenanceTables {
         /** A row that is not there yet is made; null if it would be one too many. */
         Polynomial rowWith(int key) {
             int spot = 0;
-            while (spot < size && keyAt(spot) < key) {
+            while (spot < size && spot < MOST_ROWS && keys[spot] < key) {
                 spot++;
             }
-            if (hasRow(spot) && keys[spot] == key) {
+            if (spot < size && spot < MOST_ROWS && keys[spot] == key) {
                 return polynomials[spot];
             }
             if (size >= MOST_ROWS) {
@@ -1073,7 +1072,7 @@ public final class ProvenanceTables {
     }
 
     /**
-     * The query that was read last. Its nodes are held in the order in which the text names them:
+     * A query, as it was read last. Its nodes are held in the order in which the text names them:
      * each one before its parts, so that a pass from the last to the first meets all parts of a
      * node before the node, the first part later than the second.
      */
