@@ -220,7 +220,11 @@ public final class ModelTest {
         }
     }
 
+    /** Calls after the last one that the document speaks of are not looked at. */
     private void due(String call, long got, long want) {
+        if (calls >= CALLS) {
+            return;
+        }
         calls++;
         told.append(call).append(" = ").append(want).append('\n');
         String name = call.substring(0, call.indexOf('('));

@@ -1,20 +1,5 @@
 /** For each promise: ordinary inputs, the edges that the document names, and wrong inputs. */
-public final class PromiseTest {
-    private static final int NO_SUCH = -1;
-    private static final int BAD_VALUE = -2;
-    private static final int BAD_TEXT = -3;
-    private static final int TOO_MANY = -4;
-    private static final int NOT_POSSIBLE = -5;
-    private static final int NONE = -6;
-    private static final int LOWEST = Integer.MIN_VALUE;
-    private static final int HIGHEST = Integer.MAX_VALUE;
-
-    private static int wrong = 0;
-    private static int asked = 0;
-    private static String promise = "";
-
-    private ProvenanceTables x = new ProvenanceTables();
-
+public final class PromiseTest extends Checks {
     public static void main(String[] args) {
         PromiseTest t = new PromiseTest();
         t.baseTables();
@@ -26,75 +11,7 @@ public final class PromiseTest {
         t.withdrawing();
         t.printing();
         t.relations();
-        System.out.println(wrong == 0 ? asked + " answers are as due" : wrong + " answers are not as due");
-        if (wrong != 0) {
-            System.exit(1);
-        }
-    }
-
-    private void begin(String name) {
-        promise = name;
-        x = new ProvenanceTables();
-    }
-
-    private static void due(String call, double got, double want) {
-        asked++;
-        if (got != want) {
-            wrong++;
-            System.out.println(promise + ": " + call + " answered " + got + ", due is " + want);
-        }
-    }
-
-    private void type(String line) {
-        x.clearText();
-        for (char c : line.toCharArray()) {
-            x.append(c);
-        }
-    }
-
-    private int query(String line) {
-        type(line);
-        return x.setQuery();
-    }
-
-    private void rows(int table, int... values) {
-        for (int value : values) {
-            due("addRow(" + table + ", " + value + ") >= 0", x.addRow(table, value) >= 0 ? 1 : 0, 1);
-        }
-    }
-
-    private void prints(int row, int form, String want) {
-        due("print(" + row + ", " + form + ") of " + want, x.print(row, form), want.length());
-        StringBuilder got = new StringBuilder();
-        for (int i = 0; x.printed(i) >= 0; i++) {
-            got.append((char) x.printed(i));
-        }
-        due("print(" + row + ", " + form + ") gives " + got + " for " + want, got.toString().equals(want) ? 1 : 0, 1);
-        due("printed behind the end", x.printed(want.length()), NO_SUCH);
-    }
-
-    private void shows(String want) {
-        StringBuilder got = new StringBuilder();
-        for (int row = 0; row < x.answerRows(); row++) {
-            got.append(row > 0 ? " " : "");
-            for (int column = 0; column < x.answerColumns(); column++) {
-                got.append(x.answerValue(row, column));
-            }
-            got.append(':');
-            x.print(row, 0);
-            for (int i = 0; x.printed(i) >= 0; i++) {
-                got.append((char) x.printed(i));
-            }
-        }
-        due("answer " + got + " for " + want, got.toString().equals(want) ? 1 : 0, 1);
-    }
-
-    private int historySize() {
-        int size = 0;
-        while (size < 9 && x.undo() != NONE) {
-            size++;
-        }
-        return size;
+        t.finish();
     }
 
     // ---- promises 1 to 7
@@ -340,9 +257,6 @@ public final class PromiseTest {
     }
 
     private void fits() {
-        begin("8 setQuery fits");
-        x.setColumns(0, 1);
-        x.setColumns(2, 3);
         String[] fitting = {"A", "s0=9(A)", "s1=0(B)", "s1~0(B)", "s2~2(C)", "p0(A)", "p0000(A)", "p2101(C)",
             "j00(A,C)", "j02(A,C)", "j20(C,A)", "j11(B,D)", "u(A,A)", "u(B,p00(A))", "u(C,j01(A,B))",
             "s3=1(j00(B,B))", "p3(j00(j00(A,A),j00(A,A)))", "u(p0000(A),j00(B,B))"};
@@ -351,13 +265,18 @@ public final class PromiseTest {
             "u(C,j00(B,B))", "s0=1(s1=1(A))", "u(A,p0(s1=1(A)))", "j00(A,u(A,B))", "p0(j00(B,C))", "p1(p0(B))",
             "j00(j00(A,A),C)"};
         for (String line : fitting) {
-            due(line, query(line), 0);
-            due(line + " has no fault", x.fault(), NONE);
+            isAnswered(line, 0);
         }
         for (String line : unfitting) {
-            due(line, query(line), NOT_POSSIBLE);
-            due(line + " has no fault", x.fault(), NONE);
+            isAnswered(line, NOT_POSSIBLE);
         }
+    }
+
+    private void isAnswered(String line, int want) {
+        begin("8 setQuery fits");
+        widths(1, 2, 3, 2);
+        due(line, query(line), want);
+        due(line + " has no fault", x.fault(), NONE);
     }
 
     private void dropQuery() {
@@ -411,14 +330,11 @@ public final class PromiseTest {
             "j00(A,B)", "j33(A,B)", "u(A,B)", "u(u(A,B),j00(p0(A),s0=1(B)))",
             "p0(p0(p0(p0(p0(p0(p0(p0(p0(p0(p0(p0(p0(p0(A))))))))))))))", "u(A,u(A,u(A,u(A,u(A,u(A,u(A,u(A,u(A,A)))))))))"};
         for (String line : queries) {
-            type(line);
-            due(line, x.fault(), NONE);
+            hasFault(line, NONE);
             for (int length = 0; length < line.length(); length++) {
-                type(line.substring(0, length));
-                due("begin of " + line, x.fault(), length);
+                hasFault(line.substring(0, length), length);
             }
-            type(line + "A");
-            due(line + "A", x.fault(), line.length());
+            hasFault(line + "A", line.length());
         }
         // a sign ! stands before the character that is the fault of the line without it
         String[] broken = {"!E", "!a", "!(", "! A", "A! ", "A!)", "A!A", "s!4=0(A)", "s!(A)", "s0!(A)", "s0!0(A)",
@@ -428,17 +344,18 @@ public final class PromiseTest {
             "u(A,!)", "u(A,A)!)", "u(A,s0~!9(A))", "u(A,u(A,A)!,A)",
             "u(u(u(u(u(u(u(u(u(u(u(u(u(u(u(u(u(u(u(u(u(u(u(u(u(u(u(u(u!u)"};
         for (String line : broken) {
-            type(line.replace("!", ""));
-            due(line, x.fault(), line.indexOf('!'));
+            hasFault(line.replace("!", ""), line.indexOf('!'));
         }
         for (String head : new String[] {"u(", "p0(", "j00("}) {
-            String line = head.repeat(30).substring(0, 60);
-            type(line);
-            due(line, x.fault(), 60);
+            hasFault(head.repeat(30).substring(0, 60), 60);
         }
-        x.setColumns(0, 1);
-        type("p3(A)");
-        due("a query that does not fit", x.fault(), NONE);
+        hasFault("p3(A)", NONE);
+    }
+
+    private void hasFault(String line, int want) {
+        begin("12 fault");
+        type(line);
+        due("fault of " + line, x.fault(), want);
     }
 
     private void undo() {
@@ -603,7 +520,7 @@ public final class PromiseTest {
     }
 
     private void forms() {
-        promise = "26 terms, 27 coefficient, 28 exponent, 29 lineage";
+        begin("26 terms, 27 coefficient, 28 exponent, 29 lineage");
         formsExample();
         due("answerRows", x.answerRows(), 1);
         prints(0, 0, "2a^2+2ab+a+b^2+bc");
@@ -665,7 +582,7 @@ public final class PromiseTest {
     // ---- promises 30 to 34
 
     private void evaluating() {
-        promise = "30 derivations";
+        begin("30 derivations");
         formsExample();
         due("all", x.derivations(0), 7);
         x.setWithdrawn(2, true);
@@ -676,7 +593,7 @@ public final class PromiseTest {
         due("without any", x.derivations(0), 0);
         due("no such row", x.derivations(1), NO_SUCH);
         due("no such row", x.derivations(-1), NO_SUCH);
-        promise = "31 leastCost, 32 cheapestTags";
+        begin("31 leastCost, 32 cheapestTags");
         formsExample();
         x.setCost(0, 9);
         x.setCost(1, 4);
@@ -706,7 +623,7 @@ public final class PromiseTest {
     }
 
     private void trusts() {
-        promise = "33 answerTrust, 34 confidence";
+        begin("33 answerTrust, 34 confidence");
         formsExample();
         x.setTrust(0, 30);
         x.setTrust(1, 60);
@@ -751,7 +668,7 @@ public final class PromiseTest {
     // ---- promises 35 to 38
 
     private void withdrawing() {
-        promise = "35 needed";
+        begin("35 needed");
         formsExample();
         due("none", x.needed(0), 0);
         x.setWithdrawn(0, true);
@@ -762,7 +679,7 @@ public final class PromiseTest {
         due("not present", x.needed(0), NONE);
         due("no such row", x.needed(1), NO_SUCH);
         due("no such row", x.needed(-1), NO_SUCH);
-        promise = "36 smallestCut";
+        begin("36 smallestCut");
         formsExample();
         due("a and b", x.smallestCut(0), 3);
         x.setWithdrawn(0, true);
@@ -784,7 +701,7 @@ public final class PromiseTest {
         due("b or d", x.smallestCut(0), 2);
         due("a or c", x.smallestCut(1), 1);
         pairs();
-        promise = "38 lostIf";
+        begin("38 lostIf");
         formsExample();
         due("none", x.lostIf(0), 0);
         due("a", x.lostIf(1), 0);
@@ -823,7 +740,7 @@ public final class PromiseTest {
         due("worlds of sixteen tags", x.worlds(0), 65535);
         due("no such row", x.worlds(1), NO_SUCH);
         due("no such row", x.worlds(-1), NO_SUCH);
-        promise = "37 worlds";
+        begin("37 worlds");
         formsExample();
         due("sets of a, b and c with a or b", x.worlds(0), 6);
         x.setWithdrawn(0, true);
@@ -834,7 +751,7 @@ public final class PromiseTest {
     // ---- promises 39 and 40
 
     private void printing() {
-        promise = "39 print, 40 printed";
+        begin("39 print, 40 printed");
         formsExample();
         due("nothing printed", x.printed(0), NO_SUCH);
         prints(0, 0, "2a^2+2ab+a+b^2+bc");
@@ -874,11 +791,21 @@ public final class PromiseTest {
     // ---- relations
 
     private void relations() {
-        begin("relations");
+        relationsOfOne();
+        relationsOfTwo();
+        deepQueries();
+    }
+
+    private void rowsOfThreeTables() {
+        x.setColumns(2, 1);
         rows(0, 12, 21, 11, 12);
         rows(1, 12, 33);
-        x.setColumns(2, 1);
         rows(2, 1, 2);
+    }
+
+    private void relationsOfOne() {
+        begin("relations of one part");
+        rowsOfThreeTables();
         query("A");
         shows("11:c 12:a+d 21:b");
         query("s0=1(A)");
@@ -895,6 +822,11 @@ public final class PromiseTest {
         shows("11:c 12:b 21:a+d");
         query("p101(A)");
         shows("111:c 121:b 212:a+d");
+    }
+
+    private void relationsOfTwo() {
+        begin("relations of two parts");
+        rowsOfThreeTables();
         query("u(A,B)");
         shows("11:c 12:a+d+e 21:b 33:f");
         query("u(B,A)");
@@ -909,7 +841,6 @@ public final class PromiseTest {
         shows("1211:ce 1212:ae+de");
         query("D");
         shows("");
-        deepQueries();
     }
 
     private void deepQueries() {
