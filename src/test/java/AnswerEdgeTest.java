@@ -48,6 +48,7 @@ public final class AnswerEdgeTest extends Checks {
         t.leastCost();
         t.cheapestTags();
         t.answerTrust();
+        t.tag15();
         t.confidence();
         t.needed();
         t.smallestCut();
@@ -562,6 +563,25 @@ public final class AnswerEdgeTest extends Checks {
         due("available ones alone", x.answerTrust(0), 2);
     }
 
+    private void tag15() {
+        begin("33 answerTrust, 34 confidence, 31 leastCost: the tag 15");
+        sameRows(1, 12, 15);
+        rows(0, 12);
+        query("A");
+        due("answerTrust at first", x.answerTrust(0), 100);
+        due("confidence at first", x.confidence(0), 1.0f);
+        x.setTrust(15, 55);
+        x.setCost(15, 44);
+        due("answerTrust", x.answerTrust(0), 55);
+        due("confidence", x.confidence(0), 55 / 100.0f);
+        due("leastCost", x.leastCost(0), 44);
+        due("derivations", x.derivations(0), 1);
+        due("worlds", x.worlds(0), 1);
+        due("lostIf", x.lostIf(0x8000), 1);
+        due("setWithdrawn", x.setWithdrawn(15, true), 0);
+        due("leastCost", x.leastCost(0), NONE);
+    }
+
     private void confidence() {
         begin("34 confidence: the greatest confidence of an available term");
         threeTags();
@@ -585,6 +605,11 @@ public final class AnswerEdgeTest extends Checks {
         x.setWithdrawn(0, true);
         due("not present", x.confidence(0), 0.0f);
         due("no such row", x.confidence(1), -1.0f);
+        confidenceOrder();
+    }
+
+    /** Each of the other orders gives another float for some of these trusts. */
+    private void confidenceOrder() {
         begin("34 confidence: in ascending order of the tags");
         widths(1, 1, 1, 1);
         for (int table = 3; table >= 0; table--) {
@@ -607,6 +632,22 @@ public final class AnswerEdgeTest extends Checks {
             due("trusts from " + trust, x.confidence(0), ascending);
         }
         due("another order would be seen", found > 5 ? 1 : 0, 1);
+        begin("34 confidence: one after the other, as often as the exponent says");
+        widths(1, 1);
+        rows(0, 1);
+        rows(1, 1);
+        query("j00(j00(A,A),j00(B,B))");
+        found = 0;
+        for (int trust = 1; trust <= 40; trust++) {
+            x.setTrust(0, trust);
+            x.setTrust(1, 99 - trust);
+            float a = (float) trust / 100.0f;
+            float b = (float) (99 - trust) / 100.0f;
+            float squares = (a * a) * (b * b);
+            found += 1.0f * a * a * b * b != squares ? 1 : 0;
+            due("trust " + trust, x.confidence(0), 1.0f * a * a * b * b);
+        }
+        due("a product of powers would be seen", found > 5 ? 1 : 0, 1);
     }
 
     // ---- withdrawing base rows
@@ -650,6 +691,14 @@ public final class AnswerEdgeTest extends Checks {
         query("u(p0(j00(A,B)),u(p0(j00(A,C)),p0(j00(A,D))))");
         prints(0, 0, "ad+bd+cd");
         due("d is the smallest though its bit mask is not the least", x.smallestCut(0), 8);
+        begin("36 smallestCut: the least bit mask, though another set has the least tag");
+        widths(1, 1);
+        rows(0, 1);
+        rows(1, 1, 1);
+        rows(0, 1);
+        query("j00(A,B)");
+        prints(0, 0, "ab+ac+bd+cd");
+        due("b and c, not a and d", x.smallestCut(0), 6);
         begin("36 smallestCut: withdrawn, too");
         threeTags();
         due("all", x.smallestCut(0), 7);
@@ -710,6 +759,20 @@ public final class AnswerEdgeTest extends Checks {
         due("ab, ad, abd", x.worlds(0), 3);
         query("p0(j00(j00(A,B),C))");
         due("abd", x.worlds(0), 1);
+        begin("37 worlds: of terms without a tag in common");
+        widths(1, 1, 1, 1);
+        for (int table = 0; table < 4; table++) {
+            rows(table, 1);
+        }
+        query("u(p0(j00(A,B)),p0(j00(C,D)))");
+        prints(0, 0, "ab+cd");
+        due("4 + 4 - 1", x.worlds(0), 7);
+        query("u(p0(j00(A,C)),p0(j00(B,D)))");
+        prints(0, 0, "ac+bd");
+        due("4 + 4 - 1", x.worlds(0), 7);
+        query("u(p0(j00(j00(A,B),C)),D)");
+        prints(0, 0, "abc+d");
+        due("8 + 1", x.worlds(0), 9);
         begin("37 worlds: of 32 terms");
         terms32();
         due("15 * 255", x.worlds(0), 3825);

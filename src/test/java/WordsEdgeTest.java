@@ -125,18 +125,20 @@ public final class WordsEdgeTest extends Checks {
         rows(2, 77, 77);
         due("tags", x.tags(), 3);
         due("values", x.value(0, 0) + x.value(0, 1) + x.value(1, 0) + x.value(1, 1), 28);
-        begin("cost 1 at first, trust 100 at first, not withdrawn at first");
-        rows(0, 12, 34);
-        x.setCost(1, 0);
-        x.setTrust(1, 0);
-        x.setWithdrawn(1, true);
-        x.dropRow(1);
-        rows(0, 34);
-        for (int tag = 0; tag < 2; tag++) {
-            due("cost", x.cost(tag), 1);
-            due("trust", x.trust(tag), 100);
+        for (int before : new int[] {0, 7, 100}) {
+            begin("cost 1 at first, trust 100 at first, not withdrawn at first, also of a tag that was there before");
+            rows(0, 12, 34);
+            x.setCost(1, before);
+            x.setTrust(1, before);
+            x.setWithdrawn(1, true);
+            x.dropRow(1);
+            rows(0, 34);
+            for (int tag = 0; tag < 2; tag++) {
+                due("cost", x.cost(tag), 1);
+                due("trust", x.trust(tag), 100);
+            }
+            due("withdrawn", x.withdrawn(), 0);
         }
-        due("withdrawn", x.withdrawn(), 0);
     }
 
     // ---- queries
@@ -582,6 +584,11 @@ public final class WordsEdgeTest extends Checks {
         due("setQuery", query(full), 1);
         due("fault", x.fault(), NONE);
         shows("1:12a");
+        begin("a query of 60 characters, nested the other way");
+        rows(0, 12);
+        due("setQuery", query("p0(u(u(u(u(u(u(u(u(u(u(u(A,A),A),A),A),A),A),A),A),A),A),A))"), 1);
+        due("clearText", x.clearText(), 60);
+        shows("1:12a");
         isFault("a query of 61 characters has no room", full + ")", NONE);
         due("length", x.clearText(), 60);
         isFault("a fault at the 60th character", full.substring(0, 59) + ",", 59);
@@ -596,6 +603,23 @@ public final class WordsEdgeTest extends Checks {
 
     /** Each begin of a query has its length as fault, and each other sign in a place is the fault. */
     private void faultOfBegins() {
+        begin("the fault is that of the text as it is now");
+        String line = "u(s0=5(A),p01(B))";
+        for (int round = 0; round < 3; round++) {
+            for (int at = 0; at < line.length(); at++) {
+                due("fault of a begin", x.fault(), at);
+                x.append(line.charAt(at));
+            }
+            due("fault of the whole", x.fault(), NONE);
+            x.append('A');
+            due("fault behind", x.fault(), line.length());
+            x.append('A');
+            due("fault behind", x.fault(), line.length());
+            due("length", x.clearText(), line.length() + 2);
+            type("j00(u(");
+            due("fault of another begin", x.fault(), 6);
+            x.clearText();
+        }
         String[] lines = {"u(s0=5(A),p0123(j10(B,s2~3(C))))", "j33(u(A,B),p0(D))"};
         String[][] allowed = {{"ABCDspju", "(", "ABCDspju", "0123", "=~", "0123456789", "(", "ABCDspju", ")", ",",
             "ABCDspju", "0123", "0123(", "0123(", "0123(", "(", "ABCDspju", "0123", "0123", "(", "ABCDspju", ",",
